@@ -274,6 +274,8 @@ public final class PromiseTest {
         Bench.faulty("rain [[[[[not row=(2)]]]]];", 4, 18);
         Bench.shopOf("rain [[[[[not row=1 and (2)=2 and [all]]]]]];");
         Bench.shopOf("doubt (((((1)))))+((((((1))))))*((((((1))))));");
+        Bench.shopOf("doubt ((((max((1),(2))))));");
+        Bench.faulty("doubt (((((max((1),(2)))))));", 4, 15);
         // only where it could stand
         Bench.faulty("doubt ((((((1(", 1, 13);
     }
@@ -344,6 +346,9 @@ public final class PromiseTest {
         TurnedBoards y = Bench.shopOf("letter a hand 0 is 0 0 0 0 0;word aaaaaa;");
         due("a word of six", y.word(0, 5), 1);
         due("a letter without strokes", y.letter(0, 0, 2), 0);
+        TurnedBoards z = Bench.shopOf(LETTERS + "word pod;word up;word u;");
+        due("nothing behind a shorter word", z.word(1, 2), 0);
+        due("nothing behind a shorter word", z.word(2, 1), 0);
     }
 
     // Promises 9, 10
@@ -393,8 +398,9 @@ public final class PromiseTest {
             due("lost", z.years(1), 15);
         }
         due("40 are told", z.has(6), 40);
-        due("the oldest told", z.kept(0, 0), 5);
-        due("the newest told", z.kept(39, 0), 44);
+        for (int k = 0; k < 40; k++) {
+            due("told from the oldest on", z.kept(k, 0), 5 + k);
+        }
         due("no 41st", z.kept(40, 0), NONE);
         z.undo();
         due("undone: the oldest told", z.kept(0, 0), 4);
@@ -705,6 +711,10 @@ public final class PromiseTest {
         }
         x.years(90);
         due("not beyond 999", x.lasts(0), 999 - 992);
+        TurnedBoards z = Bench.shopOf(FULL + "rain year>11;");
+        due("till year 12 is over", z.lasts(0), 12);
+        z.years(5);
+        due("till year 12 is over", z.lasts(0), 7);
         // what it says must be its word, even if it says another
         TurnedBoards y = Bench.shopOf(LETTERS + "word u;word o;board o hand 0;");
         y.stroke(0, 0, 1, 0);
@@ -840,6 +850,16 @@ public final class PromiseTest {
         due("the seed stays", y.chance(100) >= 0, true);
         due("no hail without", Bench.shopOf(SHOP).chance(100), 0);
         due("no boards", Bench.shopOf("hail 100;").chance(100), 0);
+        int zero = 0;
+        while (next(zero) / 64 % 100 != 0) {
+            zero++;
+        }
+        TurnedBoards z = Bench.shopOf(FULL);
+        z.seed(zero);
+        due("a draw of 0 is not below 0", z.chance(1), 0);
+        Bench.shop(z, FULL + "hail 1;");
+        z.seed(zero);
+        due("a draw of 0 is below 1", z.chance(1), 1);
     }
 
     private static long next(long seed) {
