@@ -487,7 +487,9 @@ public final class TurnedBoards {
         }
 
         void cut(int n) {
-            length = n;
+            if (n >= 0 && n <= length) {
+                length = n;
+            }
         }
 
         /** The byte at a place, 0 .. 255; NONE where there is none. */
@@ -1015,7 +1017,7 @@ public final class TurnedBoards {
         }
 
         int count(int hand) {
-            return counts[hand];
+            return isHand(hand) ? counts[hand] : 0;
         }
 
         boolean holds(int hand, int k) {
@@ -1023,16 +1025,17 @@ public final class TurnedBoards {
         }
 
         int nameOf(int hand, int k) {
-            return names[hand * MOST + k];
+            return holds(hand, k) ? names[hand * MOST + k] : 0;
         }
 
         int glyphOf(int hand, int k) {
-            return glyphs[hand * MOST + k];
+            return holds(hand, k) ? glyphs[hand * MOST + k] : 0;
         }
 
         /** Which letter of a hand has that name; NONE without. */
         int indexOf(int hand, int name) {
-            for (int k = 0; k < counts[hand]; k++) {
+            int many = count(hand);
+            for (int k = 0; k < many; k++) {
                 if (names[hand * MOST + k] == name) {
                     return k;
                 }
@@ -1041,7 +1044,7 @@ public final class TurnedBoards {
         }
 
         int doubtOf(int hand, int k, int glyph) {
-            int told = glyphs[hand * MOST + k];
+            int told = holds(hand, k) ? glyphs[hand * MOST + k] : 0;
             values[Program.MORE] = Integer.bitCount(glyph & ~told);
             values[Program.LESS] = Integer.bitCount(told & ~glyph);
             values[Program.INK] = Integer.bitCount(told);
@@ -1052,7 +1055,8 @@ public final class TurnedBoards {
         int readingOf(int hand, int glyph) {
             int least = forgive + 1;
             int found = 0;
-            for (int k = 0; k < counts[hand]; k++) {
+            int many = count(hand);
+            for (int k = 0; k < many; k++) {
                 int here = doubtOf(hand, k, glyph);
                 if (here < least) {
                     least = here;
@@ -1158,7 +1162,7 @@ public final class TurnedBoards {
                 for (int k = 0; k < PLACES && k < name.length; k++) {
                     wordLetters[wordCount * PLACES + k] = k < size ? name[k] : 0;
                 }
-                sizes[wordCount] = size;
+                sizes[wordCount] = Math.min(size, PLACES);
                 wordCount++;
             }
         }
@@ -1176,17 +1180,17 @@ public final class TurnedBoards {
         }
 
         int sizeOf(int word) {
-            return sizes[word];
+            return holdsWord(word) ? sizes[word] : 0;
         }
 
         /** The letter at a place, 1 .. 26; 0 behind the word. */
         int letterAt(int word, int place) {
-            return wordLetters[word * PLACES + place];
+            return holdsWord(word) && place >= 0 && place < PLACES ? wordLetters[word * PLACES + place] : 0;
         }
 
         int findWord(int[] name, int size) {
             for (int word = 0; word < wordCount; word++) {
-                boolean same = sizes[word] == size;
+                boolean same = sizes[word] == size && size <= name.length;
                 for (int k = 0; k < size && same; k++) {
                     same = wordLetters[word * PLACES + k] == name[k];
                 }
@@ -1198,7 +1202,8 @@ public final class TurnedBoards {
         }
 
         boolean canPaint(int word, int hand) {
-            for (int k = 0; k < sizes[word]; k++) {
+            int size = sizeOf(word);
+            for (int k = 0; k < size; k++) {
                 if (letters.indexOf(hand, letterAt(word, k)) == NONE) {
                     return false;
                 }
@@ -1213,8 +1218,8 @@ public final class TurnedBoards {
         }
 
         int wordSeen(int word, int hand, int how) {
-            int size = sizes[word];
-            for (int k = 0; k < size; k++) {
+            int size = sizeOf(word);
+            for (int k = 0; k < size && k < PLACES; k++) {
                 int place = readsBackwards(how) ? size - 1 - k : k;
                 int painted = paintedGlyph(word, hand, place);
                 said[k] = letters.readingOf(hand, Alphabet.turned(painted, how));
@@ -1223,6 +1228,9 @@ public final class TurnedBoards {
         }
 
         int leastDoubt(int one, int other) {
+            if (!holdsWord(one) || !holdsWord(other)) {
+                return NONE;
+            }
             int cell = one * MOST_WORDS + other;
             if (leastDoubts[cell] == NONE) {
                 lines.find(this, one, other, 0);
@@ -1233,7 +1241,8 @@ public final class TurnedBoards {
 
         int inkOf(int word) {
             int strokes = 0;
-            for (int k = 0; k < sizes[word]; k++) {
+            int size = sizeOf(word);
+            for (int k = 0; k < size; k++) {
                 strokes += Integer.bitCount(paintedGlyph(word, 0, k));
             }
             return strokes;
@@ -1597,13 +1606,25 @@ public final class TurnedBoards {
             }
         }
 
+        private static boolean hasRow(int board) {
+            return board >= 0 && board < Shop.MOST_BOARDS;
+        }
+
+        private static boolean hasCell(int board, int place) {
+            return hasRow(board) && place >= 0 && place < PLACES;
+        }
+
         void setBoard(int board, int word, int hand) {
-            now[BOARDS + board * BOARD_ROW] = word;
-            now[BOARDS + board * BOARD_ROW + 1] = hand;
+            if (hasRow(board)) {
+                now[BOARDS + board * BOARD_ROW] = word;
+                now[BOARDS + board * BOARD_ROW + 1] = hand;
+            }
         }
 
         void setGlyph(int board, int place, int glyph) {
-            now[BOARDS + board * BOARD_ROW + GLYPHS + place] = glyph;
+            if (hasCell(board, place)) {
+                now[BOARDS + board * BOARD_ROW + GLYPHS + place] = glyph;
+            }
         }
 
         int yearNow() {
@@ -1611,15 +1632,15 @@ public final class TurnedBoards {
         }
 
         int wordOf(int board) {
-            return now[BOARDS + board * BOARD_ROW];
+            return hasRow(board) ? now[BOARDS + board * BOARD_ROW] : NONE;
         }
 
         int handOf(int board) {
-            return now[BOARDS + board * BOARD_ROW + 1];
+            return hasRow(board) ? now[BOARDS + board * BOARD_ROW + 1] : NONE;
         }
 
         int glyphAt(int board, int place) {
-            return now[BOARDS + board * BOARD_ROW + GLYPHS + place];
+            return hasCell(board, place) ? now[BOARDS + board * BOARD_ROW + GLYPHS + place] : 0;
         }
 
         int strokesInAll() {
