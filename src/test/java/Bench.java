@@ -86,4 +86,58 @@ final class Bench {
         due("fault(0) of " + text, x.fault(0), kind);
         due("fault(1) of " + text, x.fault(1), place);
     }
+
+    /** A text that is good as far as it goes, and a fault so many bytes behind it. */
+    static void faultyBehind(String good, String bad, int kind, int place) {
+        faulty(good + bad, kind, good.length() + place);
+    }
+
+    /** The GLYPH of five rows as they are told. */
+    static int rows(int... told) {
+        int glyph = 0;
+        for (int r = 0; r < 5; r++) {
+            glyph |= (told[r] / 4 % 2 + told[r] / 2 % 2 * 2 + told[r] % 2 * 4) << 3 * r;
+        }
+        return glyph;
+    }
+
+    /** The statement that tells a letter by its GLYPH. */
+    static String letter(char name, int hand, int glyph) {
+        StringBuilder text = new StringBuilder("letter " + name + " hand " + hand + " is");
+        for (int r = 0; r < 5; r++) {
+            int row = glyph >> 3 * r & 7;
+            text.append(' ').append((row & 1) << 2 | row & 2 | row >> 2);
+        }
+        return text.append(';').toString();
+    }
+
+    static byte[] imageOf(TurnedBoards x) {
+        byte[] image = new byte[x.image()];
+        for (int k = 0; k < image.length; k++) {
+            image[k] = (byte) x.octet(k);
+        }
+        return image;
+    }
+
+    /** Makes the last byte of an image what it must be. */
+    static byte[] sealed(byte[] image) {
+        int c = 223;
+        for (int k = 0; k + 1 < image.length; k++) {
+            c = (3 * c + (image[k] & 255)) % 251;
+        }
+        image[image.length - 1] = (byte) c;
+        return image;
+    }
+
+    static boolean on(TurnedBoards x, byte[] image) {
+        put(x, image);
+        return x.on();
+    }
+
+    /** So many YEARS, by as many calls as they need. */
+    static void pass(TurnedBoards x, int years) {
+        for (int left = years; left > 0; left -= 100) {
+            due("years", x.years(Math.min(100, left)) >= 0, true);
+        }
+    }
 }

@@ -140,7 +140,7 @@ public final class PromiseTest {
         due("refused stay counted", x.status(1), 1);
         due("60 statements", Bench.shop(x, times(60, "hail 1;")), 60);
         due("blanks where one likes", Bench.shop(x, "\n letter\na\nhand 0\nis 1 2 3 4 5 \n;word   a;"), 2);
-        due("rows told", x.letter(0, 0, 1), rows(1, 2, 3, 4, 5));
+        due("rows told", x.letter(0, 0, 1), Bench.rows(1, 2, 3, 4, 5));
         Bench.shop(x, "");
         due("an empty shop has no letters", x.has(0), 0);
         // the seed stays with a new shop
@@ -153,14 +153,6 @@ public final class PromiseTest {
         y.chance(5);
         z.chance(5);
         due("the seed stays", y.glyph(0, 0), z.glyph(0, 0));
-    }
-
-    private static int rows(int... told) {
-        int glyph = 0;
-        for (int r = 0; r < 5; r++) {
-            glyph |= (told[r] / 4 % 2 + told[r] / 2 % 2 * 2 + told[r] % 2 * 4) << 3 * r;
-        }
-        return glyph;
     }
 
     private static void textFaults() {
@@ -327,7 +319,7 @@ public final class PromiseTest {
         due("glyph of p", x.letter(0, 3, 1), P);
         due("strokes of o", x.letter(0, 2, 2), 12);
         due("letter o of hand 1", x.letter(1, 0, 0), 15);
-        due("glyph of o of hand 1", x.letter(1, 0, 1), rows(2, 5, 5, 5, 2));
+        due("glyph of o of hand 1", x.letter(1, 0, 1), Bench.rows(2, 5, 5, 5, 2));
         due("letter(0, 5, 0)", x.letter(0, 5, 0), NONE);
         due("letter(1, 2, 0)", x.letter(1, 2, 0), NONE);
         due("letter(2, 0, 0)", x.letter(2, 0, 0), NONE);
@@ -364,7 +356,7 @@ public final class PromiseTest {
         due("board(-1, 0)", x.board(-1, 0), NONE);
         due("glyph(0, 0)", x.glyph(0, 0), P);
         due("glyph(0, 2)", x.glyph(0, 2), D);
-        due("glyph(1, 0)", x.glyph(1, 0), rows(2, 5, 5, 5, 2));
+        due("glyph(1, 0)", x.glyph(1, 0), Bench.rows(2, 5, 5, 5, 2));
         due("glyph(0, 3)", x.glyph(0, 3), NONE);
         due("glyph(1, 2)", x.glyph(1, 2), NONE);
         due("glyph(0, -1)", x.glyph(0, -1), NONE);
@@ -488,7 +480,7 @@ public final class PromiseTest {
         due("p turned", x.reads(0, P, 1), 4);
         due("p in water", x.reads(0, P, 2), 0);
         due("nothing there", x.reads(0, 0, 0), 0);
-        due("hand 1", x.reads(1, rows(2, 5, 5, 5, 2), 3), 15);
+        due("hand 1", x.reads(1, Bench.rows(2, 5, 5, 5, 2), 3), 15);
         due("no such hand", x.reads(2, U, 0), NONE);
         due("no such hand", x.reads(-1, U, 0), NONE);
         due("no such view", x.reads(0, U, 4), NONE);
@@ -499,7 +491,7 @@ public final class PromiseTest {
         // of like ones the first told; u lacks one of o, has one too many of neither
         due("like ones", Bench.shopOf("letter b hand 0 is 7 7 7 7 7;letter a hand 0 is 7 7 7 7 7;").reads(0, 32767, 0), 2);
         String sum = "letter b hand 0 is 7 7 7 7 7;letter a hand 0 is 7 7 7 7 6;doubt more+less-2;";
-        due("like ones, cut at 0", Bench.shopOf(sum).reads(0, rows(7, 7, 7, 7, 6), 0), 2);
+        due("like ones, cut at 0", Bench.shopOf(sum).reads(0, Bench.rows(7, 7, 7, 7, 6), 0), 2);
         due("forgiven", Bench.shopOf(LETTERS + "forgive 22;").reads(0, 0, 0) > 0, true);
         due("not forgiven", Bench.shopOf(LETTERS + "forgive 19;").reads(0, 0, 0), 0);
         due("just forgiven", Bench.shopOf(LETTERS + "forgive 20;").reads(0, 0, 0), 16);
@@ -619,17 +611,17 @@ public final class PromiseTest {
         // two b: one lacks its last stroke, the other, turned, its first: both strokes or none of them are 2 off
         TurnedBoards y = Bench.shopOf(head + "doubt more+less;");
         due("b over b: doubt", y.line(1, 1, 0, 0), 2);
-        due("b over b: those that both have", y.piece(1, 1, 0, 0, 1), 32766 & rows(7, 7, 7, 7, 6));
+        due("b over b: those that both have", y.piece(1, 1, 0, 0, 1), 32766 & Bench.rows(7, 7, 7, 7, 6));
         TurnedBoards z = Bench.shopOf(head + "doubt more*0+less;");
         due("b over b by less: strokes of both", z.line(1, 1, 0, 0), 0);
         due("b over b by less: strokes of both", z.piece(1, 1, 0, 0, 1), 32767);
         TurnedBoards w = Bench.shopOf(head + "doubt (more+less)/9;");
-        due("those that both have have fewest", w.piece(1, 1, 0, 0, 1), 32766 & rows(7, 7, 7, 7, 6));
+        due("those that both have have fewest", w.piece(1, 1, 0, 0, 1), 32766 & Bench.rows(7, 7, 7, 7, 6));
         // the letter of the one and that of the other are alike, and better than what joins them
         String asym = "letter a hand 0 is 3 0 0 0 0;letter b hand 0 is 0 0 0 0 3;word a;word b;forgive 9;";
         TurnedBoards v = Bench.shopOf(asym + "doubt (more-less)*(more-less);");
-        due("the letter of the one first", v.piece(0, 1, 0, 0, 1), rows(3, 0, 0, 0, 0));
-        due("the letter of the one first", v.piece(1, 0, 0, 0, 1), rows(0, 0, 0, 0, 3));
+        due("the letter of the one first", v.piece(0, 1, 0, 0, 1), Bench.rows(3, 0, 0, 0, 0));
+        due("the letter of the one first", v.piece(1, 0, 0, 0, 1), Bench.rows(0, 0, 0, 0, 3));
         // blanks as cheap as both: both first; of the two alone the one's first
         TurnedBoards u = Bench.shopOf("letter a hand 0 is 7 0 0 0 0;word a;forgive 0;blank 0;");
         due("alone: pieces", u.line(0, 0, 0, 2), 2);
@@ -772,26 +764,26 @@ public final class PromiseTest {
     }
 
     private static void rain() {
-        washed("column=0", rows(3, 3, 3, 3, 3));
-        washed("column=2", rows(6, 6, 6, 6, 6));
-        washed("row=0", rows(0, 7, 7, 7, 7));
-        washed("row>3", rows(7, 7, 7, 7, 0));
-        washed("near<3", rows(2, 7, 7, 7, 2));
-        washed("near=4", rows(7, 5, 5, 5, 7));
+        washed("column=0", Bench.rows(3, 3, 3, 3, 3));
+        washed("column=2", Bench.rows(6, 6, 6, 6, 6));
+        washed("row=0", Bench.rows(0, 7, 7, 7, 7));
+        washed("row>3", Bench.rows(7, 7, 7, 7, 0));
+        washed("near<3", Bench.rows(2, 7, 7, 7, 2));
+        washed("near=4", Bench.rows(7, 5, 5, 5, 7));
         washed("year=0", 0);
         washed("year=1", 32767);
         washed("place=1", 32767);
         washed("place=0", 0);
         washed("all", 0);
         washed("not all", 32767);
-        washed("row=0 or row=1 and column=0", rows(0, 3, 7, 7, 7));
-        washed("[row=0 or row=1] and column=0", rows(3, 3, 7, 7, 7));
-        washed("not row=0 and column=0", rows(7, 3, 3, 3, 3));
-        washed("not [row=0 and column=0]", rows(4, 0, 0, 0, 0));
-        washed("not not row=0", rows(0, 7, 7, 7, 7));
-        washed("row*3+column<4", rows(0, 3, 7, 7, 7));
+        washed("row=0 or row=1 and column=0", Bench.rows(0, 3, 7, 7, 7));
+        washed("[row=0 or row=1] and column=0", Bench.rows(3, 3, 7, 7, 7));
+        washed("not row=0 and column=0", Bench.rows(7, 3, 3, 3, 3));
+        washed("not [row=0 and column=0]", Bench.rows(4, 0, 0, 0, 0));
+        washed("not not row=0", Bench.rows(0, 7, 7, 7, 7));
+        washed("row*3+column<4", Bench.rows(0, 3, 7, 7, 7));
         // of all at once: what is lost does not count as lost for its neighbours
-        washed("near<3 and row<3", rows(2, 7, 7, 7, 7));
+        washed("near<3 and row<3", Bench.rows(2, 7, 7, 7, 7));
         TurnedBoards x = Bench.shopOf("letter a hand 0 is 7 7 7 7 7;word aaa;board aaa hand 0;board aaa hand 0;rain place=2;");
         due("the last of three places, on two boards", x.years(1), 30);
         due("place 0", x.glyph(1, 0), 32767);
@@ -819,7 +811,7 @@ public final class PromiseTest {
         long seed = 77;
         y.seed(77);
         int[] glyphs = {P, O, D};
-        int[] second = {rows(2, 5, 5, 5, 2), rows(6, 5, 5, 5, 5)};
+        int[] second = {Bench.rows(2, 5, 5, 5, 2), Bench.rows(6, 5, 5, 5, 5)};
         int hail = 0;
         for (int i = 0; i < 30; i++) {
             seed = next(seed);
@@ -1086,7 +1078,7 @@ public final class PromiseTest {
     private static void on() {
         TurnedBoards x = Bench.shopOf(SHOP + "rain row=0;");
         x.years(1);
-        byte[] image = imageOf(x);
+        byte[] image = Bench.imageOf(x);
         x.years(3);
         x.paint(0, 0, 0);
         Bench.put(x, image);
@@ -1125,41 +1117,24 @@ public final class PromiseTest {
         other[5] = (byte) 255;
         other[8] = 0;
         other[9] = 0;
-        Bench.put(x, good(other));
+        Bench.put(x, Bench.sealed(other));
         due("what could be", x.on(), true);
         due("year 999", x.has(4), 999);
         due("word 0", x.board(0, 0), 0);
         due("two places", x.board(0, 2), 2);
         due("a full glyph", x.glyph(0, 0), 32767);
         other[1] = (byte) 232;
-        Bench.put(x, good(other));
+        Bench.put(x, Bench.sealed(other));
         due("year 1000", x.on(), false);
         x.stroke(0, 0, 3, 0);
         due("acts go on", x.has(7), 1);
         due("nothing kept is told of an image of no boards", Bench.shopOf("").on(), false);
     }
 
-    private static byte[] imageOf(TurnedBoards x) {
-        byte[] image = new byte[x.image()];
-        for (int k = 0; k < image.length; k++) {
-            image[k] = (byte) x.octet(k);
-        }
-        return image;
-    }
-
-    private static byte[] good(byte[] image) {
-        int c = 223;
-        for (int k = 0; k + 1 < image.length; k++) {
-            c = (3 * c + (image[k] & 255)) % 251;
-        }
-        image[image.length - 1] = (byte) c;
-        return image;
-    }
-
     private static void refuses(TurnedBoards x, byte[] image, int at, int octet, String why) {
         byte[] changed = image.clone();
         changed[at] = (byte) octet;
-        Bench.put(x, good(changed));
+        Bench.put(x, Bench.sealed(changed));
         due("refused: " + why, x.on(), false);
         due("all stays: " + why, x.has(4), 1);
         due("the tape is gone: " + why, x.end(1), false);
