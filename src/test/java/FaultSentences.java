@@ -9,6 +9,7 @@ final class FaultSentences {
         s.holds(5, "FAULTS, the first along the text", FaultSentences::firstAlongTheText);
         s.holds(5, "1 the first byte with which no such text goes on (words and numbers whole, at their first byte",
                 FaultSentences::wordsAndNumbersWhole);
+        s.holds(5, "1 the first byte with which no such text goes on", FaultSentences::cutShort);
         s.holds(5, "where a NAME is asked, an OWN WORD so", FaultSentences::ownWordAsName);
         s.holds(5, "a 7th letter at itself", FaultSentences::seventhLetter);
         s.holds(5, "of a letter's NAME the 2nd", FaultSentences::secondLetter);
@@ -88,6 +89,22 @@ final class FaultSentences {
         Bench.faulty("rain min(1)=1;", 1, 10);
         Bench.faulty("rain min(1,2,3)=1;", 1, 12);
         Bench.faulty("rain min 1,2=1;", 1, 9);
+    }
+
+    /** Statements that end too soon by their ; where something else is asked. */
+    private static void cutShort() {
+        String word = FULL + "word a;";
+        for (String text : new String[] {"letter", "letter a", "letter a hand", "letter a hand 0", "letter a hand 0 is",
+            "letter a hand 0 is 1", "letter a hand 0 is 1 2", "letter a hand 0 is 1 2 3", "letter a hand 0 is 1 2 3 4",
+            "word", "board", "board a", "board a hand", "forgive", "blank", "hail", "doubt", "doubt 1+", "doubt 1-",
+            "doubt 1*", "doubt 1/", "doubt (", "doubt (1", "doubt (1+", "doubt min", "doubt min(", "doubt min(1",
+            "doubt min(1,", "doubt min(1,1", "doubt max", "rain", "rain not", "rain [", "rain [all", "rain [all or",
+            "rain all and", "rain all or", "rain not all and", "rain row", "rain row=", "rain row<", "rain row>",
+            "rain 1=2+", "rain 1=2*", "rain 1=(2"}) {
+            boolean letter = text.startsWith("letter");
+            Bench.faultyBehind(letter ? "" : word, text + ";", 1, text.length());
+            Bench.faultyBehind(letter ? "" : word, text, 1, text.length());
+        }
     }
 
     private static void ownWordAsName() {
@@ -206,6 +223,16 @@ final class FaultSentences {
         told("rain not not not not not not all and not not not not not not all;", 1);
         told("rain not not not not not not 1=1 or not not not not not not 1=1;", 1);
         told("rain [not all and not all and not all and not all and not all and not all and not all];", 1);
+        // behind others that are good
+        Bench.faulty("doubt 1+(((((((1", 4, 14);
+        Bench.faulty("doubt 1-(((((((1", 4, 14);
+        Bench.faulty("doubt 1*(((((((1", 4, 14);
+        Bench.faulty("doubt 1/(((((((1", 4, 14);
+        Bench.faulty("doubt min(1,(((((((1", 4, 17);
+        Bench.faulty("rain all and [[[[[[[all", 4, 19);
+        Bench.faulty("rain all or [[[[[[[all", 4, 18);
+        Bench.faulty("rain 1<(((((((1", 4, 13);
+        Bench.faulty("rain [all and [[[[[[all", 4, 19);
         // not is open until its fact ends, both sums of it included
         told("rain not not not not not (1)=(1);", 1);
         Bench.faulty("rain not not not not not not (1)=1;", 4, 29);

@@ -135,8 +135,17 @@ final class ImageSentences {
         due("nothing is kept", y.has(6), 0);
         due("nothing is kept", y.kept(0, 0), NONE);
         due("nothing can be undone", y.undo(), false);
-        // the LAST word that a board was painted with is that of the image
+        // the WORD that a board was painted with last is that of the image
         due("it lasts no year", y.lasts(1), 0);
+        TurnedBoards z = Bench.shopOf(SHOP + "board aaaaaa hand 1;board c hand 0;");
+        byte[] other = Bench.imageOf(z);
+        z.paint(0, 0, 0);
+        z.paint(1, 1, 1);
+        due("it is one", Bench.on(z, other), true);
+        due("word 2", z.board(0, 0), 2);
+        due("hand 1", z.board(0, 1), 1);
+        due("word 3", z.board(1, 0), 3);
+        due("hand 0", z.board(1, 1), 0);
         // without boards: three bytes
         TurnedBoards none = new TurnedBoards();
         due("3 bytes", Bench.on(none, Bench.sealed(new byte[] {0, 9, 0})), true);
@@ -188,6 +197,7 @@ final class ImageSentences {
         due("word 3", goesOn("board a hand 0;", 2, 3), true);
         due("word 4", goesOn("board a hand 0;", 2, 4), false);
         due("word 255", goesOn("board a hand 0;", 2, 255), false);
+        due("word 4 without strokes", goesOn("board a hand 0;", 2, 4, 4, 0, 5, 0), false);
     }
 
     private static void handsOfImages() {

@@ -180,6 +180,28 @@ final class LineSentences {
             due("what " + n, x.line(0, 0, 0, n), NONE);
         }
         due("no words", Bench.shopOf("").line(0, 0, 0, 0), NONE);
+        // in whatever order they are asked for, they are the same as when asked for first
+        String all = Bench.letter('a', 0, 7) + Bench.letter('b', 0, 15) + Bench.letter('a', 1, 31) + Bench.letter('b', 1, 9)
+                + "word a;word ab;word bba;forgive 4;";
+        TurnedBoards y = Bench.shopOf(all);
+        for (int i = 0; i < 54; i++) {
+            // of these one alone changes in each step: one, the other, the hand, what is asked
+            int one = i % 3;
+            int other = i / 3 % 3;
+            int hand = i / 9 % 2;
+            int what = i / 18;
+            due("line(" + one + ", " + other + ", " + hand + ", " + what + ")", y.line(one, other, hand, what),
+                    Bench.shopOf(all).line(one, other, hand, what));
+            due("line(" + other + ", " + one + ", " + hand + ", " + what + ")", y.line(other, one, hand, what),
+                    Bench.shopOf(all).line(other, one, hand, what));
+            due("line(" + other + ", " + one + ", other hand, " + what + ")", y.line(other, one, 1 - hand, what),
+                    Bench.shopOf(all).line(other, one, 1 - hand, what));
+        }
+        for (int i = 0; i < 9; i++) {
+            due("one after another", y.line(i % 3, i / 3, 0, 0), Bench.shopOf(all).line(i % 3, i / 3, 0, 0));
+        }
+        Bench.shop(y, all.replace("forgive 4", "forgive 0"));
+        due("of the new shop", y.line(2, 2, 0, 0), 54);
     }
 
     private static void piece() {

@@ -177,6 +177,15 @@ final class QuestionSentences {
         Bench.faultyAsk(x, "total line", 1, 10);
         Bench.faultyAsk(x, "total at", 1, 8);
         Bench.faultyAsk(x, "total line -1", 1, 11);
+        for (String text : new String[] {"first", "last", "often", "total", "most", "least", "total 1+", "total 1-",
+            "total 1*", "total 1/", "total (", "total (1", "total min", "total min(", "total min(1", "total min(1,",
+            "total min(1,1", "total line", "total at", "total at line", "total 1+at", "first not", "first [", "first [all",
+            "first all and", "first all or", "first 1", "first 1=", "first 1<", "first 1=1 and 1=1 or"}) {
+            Bench.faultyAsk(x, text, 1, text.length());
+            if (!text.equals("first [all")) {
+                Bench.faultyAsk(x, text + "]", 1, text.length());
+            }
+        }
         // what stands behind it
         Bench.faultyAsk(x, "total 1;", 1, 7);
         Bench.faultyAsk(x, "total 1 ;", 1, 8);
@@ -212,6 +221,11 @@ final class QuestionSentences {
         Bench.faultyAsk(x, "often [not at(line at at 9)=0-1]", 4, 22);
         answer(x, "total min(max(min(max(min(max(1,1),1),1),1),1),1)", 8);
         Bench.faultyAsk(x, "total min(max(min(max(min(max(min(1,1),1),1),1),1),1),1)", 4, 33);
+        // behind others that are good
+        Bench.faultyAsk(x, "total 1+(((((((1", 4, 14);
+        Bench.faultyAsk(x, "total 1*at at at at at at at 1", 4, 26);
+        Bench.faultyAsk(x, "often all and [[[[[[[all", 4, 20);
+        Bench.faultyAsk(x, "often all or [[[[[[[all", 4, 19);
         // line and at are open until their PART ends, and no longer
         answer(x, "total at 9+at 9+at 9+at 9+at 9+at 9+at 9", -56);
         answer(x, "total (((((at 9*at 9+line 9)))))", 0);

@@ -192,6 +192,12 @@ final class ShopSentences {
         Bench.faulty("rain all; rain all;", 5, 10);
         Bench.faulty("doubt more;rain all;doubt", 5, 20);
         Bench.faulty("doubt more;rain all;rain", 5, 20);
+        // one each of every text: what an earlier one told, or what a fault cut short, does not count
+        TurnedBoards x = new TurnedBoards();
+        for (int i = 0; i < 4; i++) {
+            due("told by each text", Bench.shop(x, "doubt more;rain all;"), 2);
+            due("a fault behind both", Bench.shop(x, "doubt more;rain all;x"), NONE);
+        }
     }
 
     private static int readAt(String text, int strokes) {
@@ -337,7 +343,36 @@ final class ShopSentences {
             due("has(" + what + ")", x.has(what), 0);
         }
         Bench.shop(x, EMPTY);
-        due("the old doubt and forgive are gone", x.reads(0, 3, 0), 1);
+        due("the old forgive is gone", x.reads(0, 3, 0), 1);
+        nothingOfOlderShops();
+    }
+
+    /** Nothing of the shop before the last, nor of a text with a fault, comes back. */
+    private static void nothingOfOlderShops() {
+        String old = FULL + "letter b hand 1 is 7 7 7 7 7;word a;word aa;board a hand 0;board aa hand 0;doubt 7;rain all;"
+                + "forgive 9;blank 1;hail 100;";
+        String plain = FULL + "word a;board a hand 0;";
+        for (String between : new String[] {"", old, old + "x", plain, plain + "x"}) {
+            TurnedBoards x = Bench.shopOf(old);
+            x.line(0, 0, 0, 0);
+            x.best(0);
+            Bench.shop(x, between);
+            x.line(0, 0, 0, 0);
+            x.best(0);
+            due("a plain shop", Bench.shop(x, plain), 3);
+            due("letters of hand 1", x.has(1), 0);
+            due("words", x.has(2), 1);
+            due("boards", x.has(3), 1);
+            due("doubt", x.doubt(0, 0, 32766), 2);
+            due("forgive", x.reads(0, 32764, 0), 0);
+            due("a line", x.line(0, 0, 0, 0), 0);
+            due("the same by a question", Bench.ask(x, "total line 0"), 0);
+            due("hail", x.chance(100), 0);
+            due("rain", x.has(5), 15);
+            Bench.shop(x, EMPTY + "word a;doubt 3;forgive 2;");
+            due("blank", x.line(0, 0, 0, 0), 18);
+            due("the same by a question", Bench.ask(x, "total line 0"), 18);
+        }
     }
 
     private static void faultAnswers() {

@@ -100,9 +100,9 @@ final class ToldSentences {
     }
 
     /** Paints the board, and lets a year of rain take all of it: one more is KEPT. */
-    private static void keep(TurnedBoards x, int times) {
+    private static void keep(TurnedBoards x, int word, int times) {
         for (int i = 0; i < times; i++) {
-            due("painted", x.paint(0, 0, 0), true);
+            due("painted", x.paint(0, word, 0), true);
             due("lost", x.years(1), 15);
         }
     }
@@ -110,15 +110,15 @@ final class ToldSentences {
     private static void howManyKept() {
         TurnedBoards x = Bench.shopOf(FULL + "rain all;");
         due("none", x.has(6), 0);
-        keep(x, 1);
+        keep(x, 0, 1);
         due("one", x.has(6), 1);
         x.years(5);
         due("nothing else said", x.has(6), 1);
-        keep(x, 38);
+        keep(x, 0, 38);
         due("39", x.has(6), 39);
-        keep(x, 1);
+        keep(x, 0, 1);
         due("40", x.has(6), 40);
-        keep(x, 1);
+        keep(x, 0, 1);
         due("41", x.has(6), 40);
     }
 
@@ -301,20 +301,21 @@ final class ToldSentences {
     }
 
     private static void last40() {
-        TurnedBoards x = Bench.shopOf(FULL + "rain all;");
-        keep(x, 39);
+        TurnedBoards x = Bench.shopOf("letter a hand 0 is 7 7 7 7 7;word aa;word a;board a hand 0;rain all;");
+        keep(x, 1, 39);
         due("the oldest of 39", x.kept(0, 0), 0);
         due("the latest of 39", x.kept(38, 0), 38);
-        keep(x, 1);
+        keep(x, 1, 1);
         due("the oldest of 40", x.kept(0, 0), 0);
         due("the latest of 40", x.kept(39, 0), 39);
-        keep(x, 1);
+        keep(x, 1, 1);
         due("the oldest of 41", x.kept(0, 0), 1);
         due("the latest of 41", x.kept(39, 0), 40);
-        keep(x, 45);
+        keep(x, 1, 45);
         due("the oldest of 86", x.kept(0, 0), 46);
         due("the latest of 86", x.kept(39, 0), 85);
         due("none behind it", x.kept(40, 0), NONE);
+        due("its word is still that", x.board(0, 0), 1);
         // an undone year is not kept, and what it had pushed out is told again
         x.undo();
         due("the latest of 85", x.kept(39, 0), 84);

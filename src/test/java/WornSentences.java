@@ -107,6 +107,11 @@ final class WornSentences {
         for (int year : new int[] {0, 1, 58, 59, 60, 61}) {
             due("rain in year " + year, Bench.shopOf(text + "rain year=" + year + ";").lasts(0), Math.min(60, year));
         }
+        // a stroke of two is forgiven a letter of three: it is lost in year 0, and the other in year 1
+        String row = Bench.letter('a', 0, 7) + "word a;board a hand 0;rain column=year;";
+        due("one year", Bench.shopOf(row).lasts(0), 1);
+        due("two years", Bench.shopOf(row + "forgive 4;").lasts(0), 2);
+        due("for ever", Bench.shopOf(row + "forgive 6;").lasts(0), 60);
         TurnedBoards x = Bench.shopOf(text + "rain year=998;");
         Bench.pass(x, 938);
         due("60 from year 938", x.lasts(0), 60);
