@@ -370,7 +370,9 @@ public final class TurnedBoards {
 
     /** Answers false, so that a refused call can hand it on. */
     private boolean refuse(int kind) {
-        refused[kind]++;
+        if (kind >= 0 && kind < REFUSALS) {
+            refused[kind]++;
+        }
         return false;
     }
 
@@ -1498,6 +1500,9 @@ public final class TurnedBoards {
         }
 
         private void offerBoth(Alphabet letters, int i, int j) {
+            if (i < 0 || i >= PLACES || j < 0 || j >= PLACES) {
+                return;
+            }
             int cell = i * SIDE + j;
             for (int choice = 0; choice < GLYPHS; choice++) {
                 int glyph = glyphForBoth(choice, oneGlyphs[i], otherGlyphs[j]);
@@ -1520,6 +1525,9 @@ public final class TurnedBoards {
 
         /** Takes a piece only if it is better: of like ones the first that is offered stays. */
         private void offer(int cell, int next, int doubt, int choice, int glyph) {
+            if (cell < 0 || cell >= next || next >= costs.length) {
+                return;
+            }
             int cost = costs[next] + doubt * WEIGHT + Integer.bitCount(glyph);
             if (cost < costs[cell]) {
                 costs[cell] = cost;
@@ -1640,7 +1648,12 @@ public final class TurnedBoards {
         }
 
         int glyphAt(int board, int place) {
-            return hasCell(board, place) ? now[BOARDS + board * BOARD_ROW + GLYPHS + place] : 0;
+            return glyphIn(now, board, place);
+        }
+
+        private static int glyphIn(int[] state, int board, int place) {
+            int cell = BOARDS + board * BOARD_ROW + GLYPHS + place;
+            return hasCell(board, place) && cell < state.length ? state[cell] : 0;
         }
 
         int strokesInAll() {
@@ -1724,18 +1737,17 @@ public final class TurnedBoards {
             int silent = 0;
             boolean worn = false;
             boolean changed = false;
-            int from = BOARDS + board * BOARD_ROW + GLYPHS;
             int size = shop.sizeOf(wordOf(board));
             for (int place = 0; place < size; place++) {
-                worn = worn || now[from + place] != ahead[from + place];
+                worn = worn || glyphAt(board, place) != glyphIn(ahead, board, place);
             }
             // Most years leave most boards as they are, and reading is dear.
             if (!worn) {
                 return;
             }
             for (int place = 0; place < size; place++) {
-                int before = shop.letters.readingOf(handOf(board), ahead[from + place]);
-                int behind = shop.letters.readingOf(handOf(board), now[from + place]);
+                int before = shop.letters.readingOf(handOf(board), glyphIn(ahead, board, place));
+                int behind = shop.letters.readingOf(handOf(board), glyphAt(board, place));
                 changed = changed || before != behind;
                 silent += behind == 0 ? 1 : 0;
             }

@@ -2,7 +2,7 @@ import java.io.IOException;
 import java.nio.file.Path;
 
 /**
- * For each sentence of the document that names a boundary a test of its own: at the boundary, just inside, just
+ * For each sentence of the document a test of its own: if it names a boundary, at the boundary, just inside, just
  * outside. Run from the project's root, where ../shared/DOC.md is found.
  */
 public final class BoundaryTest {
@@ -14,6 +14,7 @@ public final class BoundaryTest {
         TapeSentences.test(sentences);
         ShopSentences.test(sentences);
         FaultSentences.test(sentences);
+        GrammarSentences.test(sentences);
         FormulaSentences.test(sentences);
         ToldSentences.test(sentences);
         ReadingSentences.test(sentences);

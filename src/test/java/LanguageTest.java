@@ -1,4 +1,6 @@
 import java.io.IOException;
+import java.lang.reflect.Constructor;
+import java.lang.reflect.Executable;
 import java.lang.reflect.Field;
 import java.lang.reflect.Method;
 import java.lang.reflect.Modifier;
@@ -7,6 +9,7 @@ import java.nio.file.Path;
 import java.util.Arrays;
 import java.util.HashSet;
 import java.util.Set;
+import java.util.TreeSet;
 import java.util.regex.Matcher;
 import java.util.regex.Pattern;
 
@@ -28,7 +31,10 @@ public final class LanguageTest {
         Bench.due("Exact", uses(code, "Exact\\b"), 0);
         Bench.due("imports", uses(code, "\\bimport\\b"), uses(code, "import java\\.util\\.(Arrays|ArrayList|List);"));
         Bench.due("signs beyond 127", source.chars().filter(c -> c > 126 || c < 32 && c != 10).count(), 0);
+        library(code);
+        lengths(code);
         face();
+        signatures(Files.readString(Path.of("../shared/DOC.md")));
         Bench.finish();
     }
 
@@ -39,6 +45,65 @@ public final class LanguageTest {
             n++;
         }
         return n;
+    }
+
+    private static void library(String code) {
+        Set<String> may = new HashSet<>(Arrays.asList(("Integer.bitCount Math.min Math.max Math.abs Math.floorDiv Math.floorMod "
+                + "Arrays.fill Arrays.copyOf System.arraycopy").split(" ")));
+        Matcher m = Pattern.compile("\\b(Integer|Long|Character|Math|Arrays|System|Objects)\\.\\w+").matcher(code);
+        while (m.find()) {
+            Bench.due(m.group() + " is of the library that may be used", may.contains(m.group()), true);
+        }
+    }
+
+    /** From the line that opens a method to the brace that closes it at the same depth. */
+    private static void lengths(String code) {
+        Pattern opening = Pattern.compile("( {4}| {8})(?!if|for|while|switch|\\}|do )\\w.*\\) \\{");
+        String[] lines = code.split("\n");
+        int methods = 0;
+        for (int from = 0; from < lines.length; from++) {
+            Matcher m = opening.matcher(lines[from]);
+            if (m.matches()) {
+                int to = from;
+                while (!lines[to].equals(m.group(1) + "}")) {
+                    to++;
+                }
+                methods++;
+                Bench.due("some sixty lines at most:" + lines[from], to - from < 60, true);
+            }
+        }
+        Bench.due("many methods are looked at, " + methods, methods > 150, true);
+    }
+
+    /** The document's own list of what is public, line by line. */
+    private static void signatures(String document) {
+        Set<String> want = new TreeSet<>();
+        Matcher m = Pattern.compile("    public (?!static)(?:(\\w+) )?(\\w+)\\((.*)\\);").matcher(document);
+        while (m.find()) {
+            String types = m.group(3).replaceAll(" \\w+(, |$)", "$1").replace(", ", ",");
+            want.add((m.group(1) == null ? "" : m.group(1) + " ") + m.group(2) + "(" + types + ")");
+        }
+        Set<String> got = new TreeSet<>();
+        for (Method f : TurnedBoards.class.getDeclaredMethods()) {
+            if (Modifier.isPublic(f.getModifiers())) {
+                got.add(f.getReturnType() + " " + f.getName() + types(f));
+            }
+        }
+        for (Constructor<?> c : TurnedBoards.class.getConstructors()) {
+            got.add(c.getName() + types(c));
+        }
+        Bench.due("33 calls and the constructor", want.size(), FACE.size() + 1);
+        Bench.due("the face is " + want + ", it was " + got, got.equals(want), true);
+        Bench.due("NONE", TurnedBoards.NONE, -1);
+        Bench.due("NOTHING", TurnedBoards.NOTHING, -1000000000000000L);
+    }
+
+    private static String types(Executable call) {
+        StringBuilder text = new StringBuilder("(");
+        for (Class<?> type : call.getParameterTypes()) {
+            text.append(text.length() > 1 ? "," : "").append(type);
+        }
+        return text.append(')').toString();
     }
 
     private static void face() {

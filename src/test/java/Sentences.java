@@ -5,8 +5,8 @@ import java.util.regex.Matcher;
 import java.util.regex.Pattern;
 
 /**
- * The sentences of the document that name a boundary, each with the test that is its own. It looks whether the
- * document says so, and at the end whether any number or refusal of the document was left without a test.
+ * The sentences of the document, each with the test that is its own. It looks whether the document says so, and at
+ * the end whether any word of the document, from its first term on, was left without a test.
  */
 final class Sentences {
     private static final int PROMISES = 34;
@@ -47,21 +47,29 @@ final class Sentences {
         return at >= 0 ? at : document.indexOf(sentence);
     }
 
-    /** Every promise has a test, and every number and refusal from the first term on lies in a sentence that has one. */
+    /** Every promise has a test, and every word from the first term on lies in a sentence that has one. */
     void nothingIsLeft() {
         for (int promise = 1; promise <= PROMISES; promise++) {
             Bench.due("promise " + promise + " has a test", testsOf[promise] > 0, true);
         }
         int to = document.indexOf("## Not promised");
-        Matcher m = Pattern.compile("\\d+|\\b(NONE|NOTHING|refused|without|Without|none|last|first|like|at most)\\b")
-                .matcher(document).region(document.indexOf("I. A SHOP"), to);
+        Matcher m = Pattern.compile("\\w+").matcher(document).region(document.indexOf("I. A SHOP"), to);
         while (m.find()) {
-            int line = document.lastIndexOf('\n', m.start()) + 1;
-            if (!document.startsWith("## ", line) && !tested[m.start()]) {
+            if (!tested[m.start()] && !isFrame(m.start())) {
+                int line = document.lastIndexOf('\n', m.start()) + 1;
                 String near = document.substring(Math.max(line, m.start() - 40), Math.min(to, m.end() + 40));
                 Bench.due("tests of \"" + m.group() + "\" in \"" + near.replace('\n', ' ') + "\"", 0, 1);
             }
         }
         System.out.println(tests + " sentences tested");
+    }
+
+    /** Headings, fences, numerals of the terms, and the signatures, which LanguageTest compares. */
+    private boolean isFrame(int at) {
+        int from = document.lastIndexOf('\n', at) + 1;
+        int end = document.indexOf('\n', at);
+        String line = document.substring(from, end);
+        Matcher frame = Pattern.compile("## .*|```.*|The constants:|Ahead of the calls .*|[IV]+\\.|`[^`]*`:").matcher(line);
+        return frame.lookingAt() && at < from + frame.end();
     }
 }
